@@ -179,7 +179,7 @@ public final class DraftCommon {
     }
 
     public int waiting(int place) throws IllegalArgumentException {
-        requireRange(place, 0, Integer.MAX_VALUE);
+        requireArgument(place >= 0);
         return reviews.waitingAt(place);
     }
 
@@ -264,7 +264,7 @@ public final class DraftCommon {
     private void requireSpan(int from, int to) {
         requireTextPlace(from);
         requireTextPlace(to);
-        requireRange(to, from, Integer.MAX_VALUE);
+        requireArgument(from <= to);
     }
 
     private static void requireIndex(int index, int count) {
@@ -274,7 +274,11 @@ public final class DraftCommon {
     }
 
     private static void requireRange(int value, int least, int greatest) {
-        if (value < least || value > greatest) {
+        requireArgument(value >= least && value <= greatest);
+    }
+
+    private static void requireArgument(boolean holds) {
+        if (!holds) {
             throw new IllegalArgumentException("an argument is out of its range");
         }
     }

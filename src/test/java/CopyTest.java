@@ -18,6 +18,7 @@ final class CopyTest {
         mergeFreeAgain();
         copyAndCopyAt();
         changes();
+        manyChanges();
     }
 
     private static void newObject() {
@@ -281,5 +282,27 @@ final class CopyTest {
         Check.due("7: merged", x.changes(3), 0);
         Check.noPlace("7: writer 6", () -> x.changes(6));
         Check.noPlace("7: writer -1", () -> x.changes(-1));
+    }
+
+    private static void manyChanges() {
+        DraftCommon x = new DraftCommon();
+        for (int i = 0; i < 300; i++) {
+            x.type(0, i, 1);
+        }
+        for (int i = 0; i < 200; i++) {
+            Check.due("3: the first one", x.delete(0, 0), i);
+        }
+        Check.due("7: none is lost", x.changes(0), 500);
+        Check.due("4: none is refused", x.merge(0), 0);
+        Check.due("8: what is left", x.length(), 100);
+        Check.due("9: the first of them", x.wordAt(0), 200);
+        Check.due("12: share", x.share(0), 100);
+        Check.due("13: shareAnew", x.shareAnew(0), 100);
+        for (int i = 0; i < 100; i++) {
+            x.delete(0, 0);
+        }
+        x.merge(0);
+        Check.due("12: share of nothing", x.share(0), 0);
+        Check.due("13: shareAnew of nothing", x.shareAnew(0), 0);
     }
 }

@@ -10,7 +10,7 @@ final class LanguageTest {
         "\\bimport\\b", "\\bpackage\\b", "\\btry\\b", "\\bcatch\\b", "\\bfinally\\b", "\\bsynchronized\\b",
         "\\bassert\\b", "->", "::", "\\bObject\\b", "\\bequals\\b", "\\bhashCode\\b", "\\btoString\\b",
         "Exact\\b", "\\bdouble\\b", "\\bfloat\\b", "[/%]", "\\bstatic\\s*\\{", "\\bThread\\b", "\\bSystem\\.(?!arraycopy)",
-        "\\bprotected\\b", "@",
+        "\\bprotected\\b", "@", "\\b(Integer|Long|Math|String|List|Arrays)\\b",
     };
     private static final Pattern THROWN = Pattern.compile("\\bthrow\\b\\s*(.*?);", Pattern.DOTALL);
     private static final Pattern NEW_THROWN =
