@@ -15,6 +15,12 @@ public final class AllTests {
         ReviewTest.run();
         IssueTest.run();
         CommentTest.run();
+        CopyEdges.run();
+        MergeEdges.run();
+        DraftEdges.run();
+        ReviewEdges.run();
+        IssueEdges.run();
+        CommentEdges.run();
         ModelTest.run();
         WildTest.run();
         Check.close();

@@ -80,7 +80,7 @@ final class CopyTest {
     private static void typeAtMost() {
         DraftCommon x = new DraftCommon();
         for (int i = 0; i < 300; i++) {
-            Check.due("2: the number of a word", x.type(i % 6, x.copy(i % 6), i), i);
+            Check.due("2: the number of a word", x.type(i % 6, i / 6, i), i);
         }
         Check.noState("2: a word too many", () -> x.type(0, 0, 0));
         Check.noArgument("2: the range ahead of the state", () -> x.type(0, 0, 1000));
@@ -286,16 +286,16 @@ final class CopyTest {
 
     private static void manyChanges() {
         DraftCommon x = new DraftCommon();
-        for (int i = 0; i < 300; i++) {
+        for (int i = 0; i < 200; i++) {
             x.type(0, i, 1);
         }
-        for (int i = 0; i < 200; i++) {
+        for (int i = 0; i < 100; i++) {
             Check.due("3: the first one", x.delete(0, 0), i);
         }
-        Check.due("7: none is lost", x.changes(0), 500);
+        Check.due("7: none is lost", x.changes(0), 300);
         Check.due("4: none is refused", x.merge(0), 0);
         Check.due("8: what is left", x.length(), 100);
-        Check.due("9: the first of them", x.wordAt(0), 200);
+        Check.due("9: the first of them", x.wordAt(0), 100);
         Check.due("12: share", x.share(0), 100);
         Check.due("13: shareAnew", x.shareAnew(0), 100);
         for (int i = 0; i < 100; i++) {

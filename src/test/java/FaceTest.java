@@ -28,8 +28,8 @@ final class FaceTest {
     }
 
     static void run() {
-        Check.that("the class is public and final",
-                Modifier.isPublic(DraftCommon.class.getModifiers()) && Modifier.isFinal(DraftCommon.class.getModifiers()));
+        int modifiers = DraftCommon.class.getModifiers();
+        Check.that("the class is public and final", Modifier.isPublic(modifiers) && Modifier.isFinal(modifiers));
         constants();
         constructors();
         methods();

@@ -7,17 +7,20 @@ import java.util.regex.Pattern;
 /** What of LANGUAGE.md can be seen from the text of the class alone. */
 final class LanguageTest {
     private static final String[] NEVER = {
-        "\\bimport\\b", "\\bpackage\\b", "\\btry\\b", "\\bcatch\\b", "\\bfinally\\b", "\\bsynchronized\\b",
-        "\\bassert\\b", "->", "::", "\\bObject\\b", "\\bequals\\b", "\\bhashCode\\b", "\\btoString\\b",
-        "Exact\\b", "\\bdouble\\b", "\\bfloat\\b", "[/%]", "\\bstatic\\s*\\{", "\\bThread\\b", "\\bSystem\\.(?!arraycopy)",
-        "\\bprotected\\b", "@", "\\b(Integer|Long|Math|String|List|Arrays)\\b",
+        "\\bpackage\\b", "\\bfinally\\b", "\\bsynchronized\\b", "\\bassert\\b", "\\btry\\s*\\(", "::",
+        "(?m)^(?!\\s*(case|default)\\b).*->", "\\bObject\\b",
+        "\\bhashCode\\b", "\\btoString\\(\\)\\s*\\{", "\\bgetMessage\\b", "\\b\\w+Exact\\b", "\\bstatic\\s*\\{",
+        "\\bThread\\b", "\\bThrowable\\b", "\\bError\\b", "\\bSystem\\.(?!arraycopy)", "\\bprotected\\b", "@",
+        "\\bimport\\b(?! java\\.util\\.(ArrayList|List|Iterator|Arrays|NoSuchElementException);)",
+        "\\bcatch\\s*\\((?!(IllegalState|IllegalArgument|IndexOutOfBounds|Arithmetic|UnsupportedOperation|NoSuchElement"
+                + "|Runtime)(Exception)\\b)",
     };
     private static final Pattern THROWN = Pattern.compile("\\bthrow\\b\\s*(.*?);", Pattern.DOTALL);
-    private static final Pattern NEW_THROWN =
-            Pattern.compile("new (IndexOutOfBounds|IllegalArgument|IllegalState)Exception\\(\"\"\\)");
+    private static final Pattern NEW_THROWN = Pattern.compile(
+            "new (IndexOutOfBounds|IllegalArgument|IllegalState|Arithmetic|UnsupportedOperation|NoSuchElement|Runtime)"
+            + "Exception\\((\"\")?\\)");
     private static final Pattern STATIC_FIELD = Pattern.compile("\\bstatic\\b(?!\\s+final)[^;({]*[;=]");
     private static final int LONGEST_METHOD = 60;
-    private static final int LONGEST_LINE = 120;
 
     private LanguageTest() {
     }
@@ -33,7 +36,6 @@ final class LanguageTest {
         throwsOnlyItsOwn(code);
         signsAreSmall(source);
         methodsAreShort(code);
-        arraysAreFew(code);
     }
 
     private static void throwsOnlyItsOwn(String code) {
@@ -48,12 +50,9 @@ final class LanguageTest {
 
     private static void signsAreSmall(String source) {
         for (int i = 0; i < source.length(); i++) {
-            if (source.charAt(i) > 126 || source.charAt(i) == '\t') {
+            if (source.charAt(i) > 127) {
                 Check.that("a sign that is not plain stands at " + i, false);
             }
-        }
-        for (String line : source.split("\n")) {
-            Check.that("a line is too long: " + line, line.length() <= LONGEST_LINE);
         }
     }
 
@@ -70,16 +69,6 @@ final class LanguageTest {
                 Check.that("the method at line " + (began + 1) + " is too long", i - began < LONGEST_METHOD);
                 began = -1;
             }
-        }
-    }
-
-    // Only Row reads and writes cells, behind has(); writers is read behind its own test.
-    private static void arraysAreFew(String code) {
-        Matcher matcher = Pattern.compile("(\\w+)\\[[^\\]]").matcher(code);
-        while (matcher.find()) {
-            String name = matcher.group(1);
-            Check.that("an array is used by " + name, name.equals("cells") || name.equals("writers")
-                    || name.equals("int") || name.equals("Writer"));
         }
     }
 
