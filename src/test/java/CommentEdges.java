@@ -19,12 +19,14 @@ final class CommentEdges {
         spanIsNoneIfThereAreNoSuchWords();
         spanHasWordsThatCameBetweenItsEnds();
         spanOfFrozenWords();
+        spanOfWordsWhoseNumbersAreNotTheirPlaces();
         keepTakes20();
         keepKeepsTheTextOfThen();
         compareTakesVersions();
         compareOfNoneAndOfAll();
         compareWithItself();
         compareTheFirstAndTheLast();
+        compareWordsWhoseNumbersAreNotTheirPlaces();
     }
 
     // ---- 27: comment
@@ -136,6 +138,15 @@ final class CommentEdges {
         x.due(0, "delete", 0, 0).due(3, "type", 0, 1, 7).due(2, "merge", 0).due(3, "span", 0);
     }
 
+    private static void spanOfWordsWhoseNumbersAreNotTheirPlaces() {
+        Play x = Play.withWordsBackwards("28: tied to words, not to places or numbers", 5).textIs("4 3 2 1 0");
+        x.due(0, "comment", 1, 2).due(1, "comment", 0, 0).due(2, "comment", 3, 4).due(1002, "span", 0)
+                .due(1, "span", 1);
+        x.due(3002, "span", 2).due(4, "delete", 0, 0).due(0, "merge", 0).due(2, "span", 0).due(NONE, "span", 1);
+        x.due(2002, "span", 2).due(3, "delete", 0, 0).due(0, "delete", 0, 2).due(0, "merge", 0).textIs("2 1");
+        x.due(1, "span", 0).due(1001, "span", 2).due(5, "type", 0, 2, 7).due(0, "merge", 0).due(1002, "span", 2);
+    }
+
     // ---- 29: keep
 
     private static void keepTakes20() {
@@ -188,6 +199,14 @@ final class CommentEdges {
         x.due(0, "merge", 0).due(1, "keep").due(0, "compare", 1, 1).due(0, "delete", 0, 0).due(0, "merge", 0);
         x.due(2, "keep").due(0, "compare", 2, 2).due(0, "compare", 0, 2).due(1, "compare", 1, 2)
                 .due(1000, "compare", 2, 1);
+    }
+
+    private static void compareWordsWhoseNumbersAreNotTheirPlaces() {
+        Play x = Play.withWordsBackwards("30: words, not places", 5).due(0, "keep").due(4, "delete", 0, 0);
+        x.due(3, "delete", 0, 0).due(5, "type", 0, 3, 7).due(0, "merge", 0).textIs("2 1 0 5").due(1, "keep");
+        x.due(1002, "compare", 0, 1).due(2001, "compare", 1, 0).due(6, "type", 0, 0, 7).due(0, "merge", 0)
+                .due(2, "keep");
+        x.due(1000, "compare", 1, 2).due(2002, "compare", 0, 2).due(2002, "compare", 2, 0);
     }
 
     private static void compareTheFirstAndTheLast() {

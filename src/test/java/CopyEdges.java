@@ -209,11 +209,11 @@ final class CopyEdges {
         for (int i = 0; i < 300; i++) {
             x.due(i, "type", 5, 0, i);
         }
-        for (int i = 0; i < 200; i++) {
+        for (int i = 0; i < 206; i++) {
             x.due(i, "delete", 5, 299 - i);
         }
-        x.due(500, "changes", 5).due(0, "merge", 5).due(0, "changes", 5).due(100, "length").due(100, "copy", 5);
-        x.due(299, "wordAt", 0).due(200, "wordAt", 99).due(100, "share", 5).due(100, "shareAnew", 5);
+        x.due(506, "changes", 5).due(0, "merge", 5).due(0, "changes", 5).due(94, "length").due(299, "wordAt", 0);
+        x.due(94, "shareAnew", 5);
     }
 
     private static void mergeLeavesNoChangesBehindRefusals() {

@@ -28,11 +28,13 @@ final class IssueEdges {
         printingTakesWhatHasRoom();
         printingEndsAtTheFirstThatHasNone();
         printingOfNoneAndOfAll();
+        printingOf30Reviews();
         todayFirstAndLast();
         printedTakesIssues();
         printedIsNoneUntilItIsPrinted();
         royaltiesTakesWriters0To5();
         royaltiesOfNoneAndOfMany();
+        royaltiesOfWordsWhoseNumbersAreNotTheirPlaces();
     }
 
     // ---- 21: addIssue
@@ -145,6 +147,14 @@ final class IssueEdges {
             x.due(27 - i / 3 * 3 + i % 3, "waiting", i);
         }
         x.due(NONE, "waiting", 30).due(0, "addIssue", 1, 200).due(30, "pass", 1).due(NONE, "waiting", 0);
+
+        Play y = Play.withWords("22: 30 that wait, the last one finished first", 30);
+        for (int i = 0; i < 30; i++) {
+            y.due(i, "order", 0, i, i);
+        }
+        for (int i = 0; i < 30; i++) {
+            y.due(i + 1, "finish", 29 - i, 9 - i / 3).due(29 - i, "waiting", i).due(29, "waiting", 0);
+        }
     }
 
     // ---- 23: pass
@@ -263,6 +273,17 @@ final class IssueEdges {
         w.due(0, "pass", 100).due(0, "printed", 0).due(0, "waiting", 0).due(1, "waiting", 1);
     }
 
+    private static void printingOf30Reviews() {
+        Play x = Play.withWords("23: room for 30 reviews", 60).due(0, "addIssue", 1, 39).due(1, "addIssue", 2, 1);
+        x.due(2, "addIssue", 3, 19).due(3, "addIssue", 4, 1).due(4, "addIssue", 5, 2);
+        for (int i = 0; i < 30; i++) {
+            x.due(i, "order", 0, 2 * i, 2 * i + 1).due(2 * i + 2, "finish", i, 7);
+        }
+        x.due(38, "pass", 1).due(19, "waiting", 0).due(0, "pass", 1).due(18, "pass", 1).due(28, "waiting", 0);
+        x.due(0, "pass", 1).due(2, "pass", 1).due(29, "waiting", 0).due(NONE, "waiting", 1).due(29, "frozenBy", 58);
+        x.due(NONE, "frozenBy", 57).due(290, "royalties", 0).due(38, "printed", 0).due(2, "printed", 4);
+    }
+
     // ---- 24: today
 
     private static void todayFirstAndLast() {
@@ -302,6 +323,17 @@ final class IssueEdges {
         x.due(3, "pass", 1).due(10, "royalties", 0).due(0, "royalties", 1).due(0, "royalties", 4)
                 .due(5, "royalties", 5);
         x.noPlaceFrom(6, 0, "royalties", 0);
+    }
+
+    private static void royaltiesOfWordsWhoseNumbersAreNotTheirPlaces() {
+        Play x = Play.withWordsBackwards("26: for its writer", 3).due(0, "merge", 2).due(3, "type", 2, 0, 7);
+        x.due(4, "type", 2, 3, 7).due(0, "merge", 2).textIs("3 2 1 4 0").due(0, "order", 1, 0, 1)
+                .due(1, "order", 1, 3, 3);
+        x.due(2, "order", 1, 4, 4).due(2, "finish", 0, 3).due(3, "finish", 1, 2).due(4, "finish", 2, 1);
+        x.due(0, "addIssue", 1, 2).due(1, "addIssue", 2, 1).due(2, "addIssue", 3, 1).due(2, "pass", 1);
+        x.due(5, "royalties", 0).due(5, "royalties", 2).due(1, "pass", 1).due(5, "royalties", 0)
+                .due(10, "royalties", 2);
+        x.due(1, "pass", 1).due(10, "royalties", 0).due(10, "royalties", 2);
     }
 
     private static void royaltiesOfNoneAndOfMany() {

@@ -41,6 +41,15 @@ final class Play {
         return play.due(0, "merge", 0);
     }
 
+    /** Like withWords, but each word is typed ahead of the others: the text is count - 1 down to 0. */
+    static Play withWordsBackwards(String promise, int count) {
+        Play play = new Play(promise);
+        for (int i = 0; i < count; i++) {
+            play.due(i, "type", 0, 0, i);
+        }
+        return play.due(0, "merge", 0);
+    }
+
     /** Makes a call whose answer does not matter here; it must not throw. */
     Play call(String name, int... arguments) {
         long got = answer(name, arguments);
@@ -101,10 +110,6 @@ final class Play {
         }
         check(text.toString().trim().equals(want), () -> "the copy is " + text + ", due is " + want);
         return this;
-    }
-
-    int callsSoFar() {
-        return calls.size();
     }
 
     private Play refused(long want, String name, int... arguments) {

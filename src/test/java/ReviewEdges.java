@@ -22,6 +22,7 @@ final class ReviewEdges {
         orderThrowsTheFirstOfItsExceptions();
         orderRefusedChangesNothing();
         orderPaysByTheRateOfThen();
+        orderOfWordsWhoseNumbersAreNotTheirPlaces();
         finishTakesReviews();
         finishTakesUrgencies0To9();
         finishTakesOrderedOnes();
@@ -147,6 +148,15 @@ final class ReviewEdges {
         Play x = Play.withWords("15: times the rate of then", 6).due(0, "order", 2, 0, 0).due(1, "setRate", 2, 0);
         x.due(1, "order", 2, 1, 2).due(0, "setRate", 2, 100).due(2, "order", 2, 3, 5).due(100, "setRate", 2, 50);
         x.due(0, "finish", 1, 0).due(300, "finish", 2, 0).due(301, "finish", 0, 0).due(0, "earned", 1);
+    }
+
+    private static void orderOfWordsWhoseNumbersAreNotTheirPlaces() {
+        Play x = Play.withWordsBackwards("15: words of the span", 5).due(0, "order", 0, 0, 1).due(1, "order", 1, 3, 3);
+        x.due(0, "frozenBy", 4).due(0, "frozenBy", 3).due(NONE, "frozenBy", 2).due(1, "frozenBy", 1);
+        x.due(NONE, "frozenBy", 0).due(0, "merge", 1).due(5, "type", 1, 1, 7).due(6, "type", 1, 3, 7);
+        x.due(3, "delete", 1, 2).due(0, "delete", 1, 5).due(2, "merge", 1).textIs("4 3 6 2 1");
+        x.due(2, "cancel", 0).due(NONE, "frozenBy", 4).due(1, "frozenBy", 1).noState("order", 0, 2, 4);
+        x.due(2, "order", 0, 0, 3).due(2, "frozenBy", 6).due(4, "cancel", 2);
     }
 
     // ---- 16: finish
