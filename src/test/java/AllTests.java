@@ -14,6 +14,8 @@ public final class AllTests {
         Path source = Path.of(args.length > 0 ? args[0] : "src/main/java/DraftCommon.java");
         FaceTest.run();
         LanguageTest.run(source);
+        ReadmeTest.run(source);
+        TermsTest.run();
         CopyTest.run();
         DraftTest.run();
         ReviewTest.run();
