@@ -247,10 +247,11 @@ public final class DraftCommon {
     // ---- what the calls share
 
     private Writer writerAt(int writer) {
-        if (writer < 0 || writer >= writers.length) {
+        Writer found = writer >= 0 && writer < writers.length ? writers[writer] : null;
+        if (found == null) {
             throw new IndexOutOfBoundsException("there is no such writer");
         }
-        return writers[writer];
+        return found;
     }
 
     private void requireWord(int number) {

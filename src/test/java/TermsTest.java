@@ -43,6 +43,7 @@ final class TermsTest {
 
     private static void reviewsAndIssues() {
         reviewersHaveARateThatIs1AtFirst();
+        reviewsAreNumberedAtMost30();
         anOrderedReviewFreezesAndHasItsPay();
         aFinishedReviewIsPaidAndWaits();
         aCancelledReviewFreezesNothing();
@@ -54,12 +55,17 @@ final class TermsTest {
     }
 
     private static void commentsAndVersions() {
+        commentsAreNumberedAtMost40();
         commentsAreTiedToTheirFirstAndLastWord();
+        commentsHaveBothEndsIfTheyAreThere();
         commentsHaveNoSpanWithoutWords();
+        versionsAreNumberedAtMost20();
         versionsKeepWhichWordsAreInTheText();
     }
 
     private static void exceptions() {
+        whatThereIsNotIsNoPlace();
+        whatIsOutOfRangeIsNoArgument();
         theFirstOfTheListIsThrown();
         constantsAreTheAnswers();
     }
@@ -249,6 +255,15 @@ final class TermsTest {
         x.noPlaceFrom(4, 0, "setRate", 0, 1).noPlaceFrom(4, 0, "order", 0, 0, 0).noPlaceFrom(4, 0, "earned", 0);
     }
 
+    private static void reviewsAreNumberedAtMost30() {
+        Play x = Play.withWords("Reviews are numbered from 0, at most 30", 32);
+        for (int i = 0; i < 30; i++) {
+            x.noPlace("stateOf", i).due(i, "order", 3, i, i);
+        }
+        x.noState("order", 0, 30, 31).due(1, "cancel", 29).due(1, "finish", 0, 0).noState("order", 0, 29, 29);
+        x.noPlace("stateOf", 30);
+    }
+
     private static void anOrderedReviewFreezesAndHasItsPay() {
         Play x = Play.withWords("freezes its words; its pay is the number of these times the rate of then", 4);
         x.due(1, "setRate", 2, 7).due(0, "order", 2, 1, 2).due(DraftCommon.ORDERED, "stateOf", 0);
@@ -321,6 +336,14 @@ final class TermsTest {
 
     // ---- comments and versions
 
+    private static void commentsAreNumberedAtMost40() {
+        Play x = Play.withWords("Comments are numbered from 0, at most 40", 1);
+        for (int i = 0; i < 40; i++) {
+            x.noPlace("span", i).due(i, "comment", 0, 0).due(1, "span", i);
+        }
+        x.noState("comment", 0, 0).noPlace("span", 40).due(0, "delete", 0, 0).due(0, "merge", 0).due(NONE, "span", 39);
+    }
+
     private static void commentsAreTiedToTheirFirstAndLastWord() {
         Play x = Play.withWords("all words of the text that are in the row from the one to the other", 5);
         x.due(0, "comment", 1, 3).due(1003, "span", 0).due(5, "type", 0, 0, 7).due(6, "type", 0, 3, 7);
@@ -329,11 +352,26 @@ final class TermsTest {
         x.due(5, "delete", 0, 0).due(6, "delete", 0, 1).due(0, "merge", 0).textIs("0 2 7 4").due(1001, "span", 0);
     }
 
+    private static void commentsHaveBothEndsIfTheyAreThere() {
+        Play x = Play.withWords("both included, if they are there", 4).due(0, "comment", 1, 3).due(1, "comment", 0, 2);
+        x.due(1003, "span", 0).due(3, "span", 1).due(0, "delete", 0, 0).due(1, "delete", 0, 0).due(0, "merge", 0);
+        x.due(2, "span", 0).due(1, "span", 1).due(2, "delete", 0, 0).due(0, "merge", 0).textIs("3");
+        x.due(1, "span", 0).due(NONE, "span", 1);
+    }
+
     private static void commentsHaveNoSpanWithoutWords() {
         Play x = Play.withWords("It has none if there are no such words", 3).due(0, "merge", 1).due(0, "comment", 1, 1);
         x.due(1, "comment", 0, 1).due(1, "delete", 0, 1).due(0, "delete", 0, 0).due(0, "merge", 0).textIs("2");
         x.due(NONE, "span", 0).due(NONE, "span", 1).due(3, "type", 1, 1, 7).due(0, "merge", 1).textIs("3 2");
         x.due(NONE, "span", 0).due(1, "span", 1);
+    }
+
+    private static void versionsAreNumberedAtMost20() {
+        Play x = Play.begin("Versions are numbered from 0, at most 20");
+        for (int i = 0; i < 20; i++) {
+            x.noPlace("compare", i, 0).due(i, "keep").due(0, "compare", i, 0);
+        }
+        x.noState("keep").noPlace("compare", 20, 0).noPlace("compare", 0, 20);
     }
 
     private static void versionsKeepWhichWordsAreInTheText() {
@@ -344,6 +382,31 @@ final class TermsTest {
     }
 
     // ---- exceptions and constants
+
+    private static void whatThereIsNotIsNoPlace() {
+        Play x = Play.withWords("no such writer, reviewer, place, review, issue, comment, version or word", 2);
+        x.due(0, "order", 0, 0, 0).due(0, "addIssue", 1, 1).due(0, "comment", 0, 0).due(0, "keep");
+        x.noPlaceFrom(3, 1, "type", 0, 0, 0).noPlaceFrom(2, 1, "delete", 0, 0).noPlaceFrom(2, 1, "copyAt", 0, 0);
+        x.noPlaceFrom(2, 0, "wordAt", 0).noPlaceFrom(2, 0, "word", 0).noPlaceFrom(2, 0, "placeOf", 0);
+        x.noPlaceFrom(2, 0, "frozenBy", 0).noPlaceFrom(2, 1, "order", 0, 0, 1).noPlaceFrom(2, 2, "order", 0, 1, 0);
+        x.noPlaceFrom(1, 0, "finish", 0, 0).noPlaceFrom(1, 0, "cancel", 0).noPlaceFrom(1, 0, "stateOf", 0);
+        x.noPlaceFrom(1, 0, "printed", 0).noPlaceFrom(1, 0, "span", 0).noPlaceFrom(2, 0, "comment", 0, 1);
+        x.noPlaceFrom(2, 1, "comment", 1, 0).noPlaceFrom(1, 0, "compare", 0, 0).noPlaceFrom(1, 1, "compare", 0, 0);
+    }
+
+    private static void whatIsOutOfRangeIsNoArgument() {
+        Play x = Play.withWords("an IllegalArgumentException if another argument is out of its range", 2);
+        x.due(0, "order", 0, 0, 0).noArgumentOutside(0, 999, 2, "type", 0, 0, 0);
+        x.noArgumentOutside(0, 100, 1, "setRate", 0, 0).noArgumentOutside(0, 9, 1, "finish", 0, 0);
+        x.noArgumentOutside(1, 1000, 0, "addIssue", 1, 1).noArgumentOutside(1, 200, 1, "addIssue", 1, 1);
+        x.noArgument("waiting", -1).noArgument("waiting", Integer.MIN_VALUE).noArgumentOutside(1, 100, 0, "pass", 1);
+        x.due(1, "setRate", 0, 100).due(1, "finish", 0, 9).due(0, "addIssue", 1000, 200).due(0, "today");
+        for (int i = 0; i < 9; i++) {
+            x.due(0, "pass", 100);
+        }
+        x.due(0, "pass", 99).noState("pass", 2).due(NONE, "printed", 0).due(1, "pass", 1).due(1000, "today");
+        x.noState("pass", 1).noArgument("pass", 0).noArgument("addIssue", 1001, 1);
+    }
 
     private static void theFirstOfTheListIsThrown() {
         Play x = Play.withWords("the one that is listed first is thrown", 2).due(0, "order", 0, 0, 0);
